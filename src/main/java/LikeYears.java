@@ -652,25 +652,29 @@ public final class LikeYears {
         known = 0;
     }
 
-    /** The bytes that came, and the tokens in them, with the fault that a reader finds. */
+    /** The bytes that came; for a reader the tokens in them, and the fault that it finds. */
     private static final class Tape {
         static final int KIND_END = 0;
         static final int KIND_WORD = 1;
         static final int KIND_NUMBER = 2;
         static final int KIND_SIGN = 3;
         static final int KIND_NO_TOKEN = 4;
-        static final String LAW_SIGNS = "()<>=+-*";
+        private static final String LAW_SIGNS = "()<>=+-*";
 
-        final byte[] bytes = new byte[MOST_BYTES];
         int size;
         int wrong;
         int wrongPlace = NONE;
+        /** The token that is read now: its kind, its first byte, and its word, number or sign. */
         int kind;
         int place;
-        long word;
-        int number;
-        private boolean ofLaws;
-        private int at;
+        long value;
+        private final byte[] bytes = new byte[MOST_BYTES];
+        // A token has at least one byte; the end stands behind them all.
+        private final int[] kinds = new int[MOST_BYTES + 1];
+        private final int[] places = new int[MOST_BYTES + 1];
+        private final long[] values = new long[MOST_BYTES + 1];
+        private int tokens;
+        private int now;
 
         void put(int four) {
             for (int shift = 24; shift >= 0 && size < MOST_BYTES; shift -= 8) {
@@ -680,27 +684,49 @@ public final class LikeYears {
         }
 
         void open(boolean forLaws) {
-            ofLaws = forLaws;
-            at = 0;
             wrong = 0;
             wrongPlace = NONE;
+            tokens = 0;
+            int at = 0;
+            for (int i = 0; i < MOST_BYTES && at < size; i++) {
+                boolean blank = bytes[at] == 32 || bytes[at] == 10;
+                at = blank ? at + 1 : scanToken(at, forLaws);
+            }
+            note(KIND_END, size, 0);
+            now = -1;
             next();
         }
 
         void next() {
-            for (; at < size && (bytes[at] == 32 || bytes[at] == 10); at++) {
-                kind = KIND_END;
+            if (now < tokens - 1) {
+                now++;
             }
-            place = at;
-            if (at >= size) {
-                kind = KIND_END;
-            } else if (isLetter(bytes[at])) {
-                readWord();
-            } else if (isDigit(bytes[at])) {
-                readNumber();
-            } else {
-                readSign((char) (bytes[at] & 255));
+            kind = kinds[now];
+            place = places[now];
+            value = values[now];
+        }
+
+        private void note(int itsKind, int at, long itsValue) {
+            if (tokens <= MOST_BYTES) {
+                kinds[tokens] = itsKind;
+                places[tokens] = at;
+                values[tokens] = itsValue;
+                tokens++;
             }
+        }
+
+        /** The place behind the token. */
+        private int scanToken(int at, boolean forLaws) {
+            if (isLetter(bytes[at])) {
+                return scanWord(at);
+            }
+            if (isDigit(bytes[at])) {
+                return scanNumber(at);
+            }
+            char sign = (char) (bytes[at] & 255);
+            boolean stands = sign == ';' || forLaws && LAW_SIGNS.indexOf(sign) >= 0;
+            note(stands ? KIND_SIGN : KIND_NO_TOKEN, at, sign);
+            return at + 1;
         }
 
         private static boolean isLetter(int b) {
@@ -711,28 +737,25 @@ public final class LikeYears {
             return b >= '0' && b <= '9';
         }
 
-        private void readWord() {
-            word = 0;
+        private int scanWord(int from) {
+            long word = 0;
+            int at = from;
             for (; at < size && isLetter(bytes[at]); at++) {
                 word = word << 8 | bytes[at];
             }
-            kind = at - place > 8 ? KIND_NO_TOKEN : KIND_WORD;
+            note(at - from > 8 ? KIND_NO_TOKEN : KIND_WORD, from, word);
+            return at;
         }
 
-        private void readNumber() {
-            number = 0;
+        private int scanNumber(int from) {
+            long number = 0;
+            int at = from;
             for (; at < size && isDigit(bytes[at]); at++) {
-                number = number * 10 + (bytes[at] - '0');
+                number = number * 10 + bytes[at] - '0';
             }
             boolean letterBehind = at < size && isLetter(bytes[at]);
-            kind = at - place > 4 || letterBehind ? KIND_NO_TOKEN : KIND_NUMBER;
-        }
-
-        private void readSign(char sign) {
-            boolean known = sign == ';' || ofLaws && LAW_SIGNS.indexOf(sign) >= 0;
-            kind = known ? KIND_SIGN : KIND_NO_TOKEN;
-            number = sign;
-            at++;
+            note(at - from > 4 || letterBehind ? KIND_NO_TOKEN : KIND_NUMBER, from, number);
+            return at;
         }
 
         /** Notes a fault at this token; of what is no token the lesser fault 1 is told. */
@@ -742,24 +765,24 @@ public final class LikeYears {
             return false;
         }
 
-        boolean isWord(long w) {
-            return kind == KIND_WORD && word == w;
+        boolean isWord(long word) {
+            return kind == KIND_WORD && value == word;
         }
 
         boolean isSign(char sign) {
-            return kind == KIND_SIGN && number == sign;
+            return kind == KIND_SIGN && value == sign;
         }
 
         boolean isName() {
             boolean name = kind == KIND_WORD;
-            for (int i = 0; i < NO_NAMES.length; i++) {
-                name = name && word != NO_NAMES[i];
+            for (int i = 0; i < NO_NAMES.length && name; i++) {
+                name = value != NO_NAMES[i];
             }
             return name;
         }
 
-        boolean passWord(long w) {
-            if (!isWord(w)) {
+        boolean passWord(long word) {
+            if (!isWord(word)) {
                 return refuse(FAULT_CANNOT_STAND);
             }
             next();
@@ -780,18 +803,18 @@ public final class LikeYears {
                 refuse(FAULT_CANNOT_STAND);
                 return NONE;
             }
+            int number = (int) value;
             if (number < least || number > most) {
                 refuse(FAULT_NUMBER);
                 return NONE;
             }
-            int n = number;
             next();
-            return n;
+            return number;
         }
 
         /** The number behind a word, or NONE behind a fault. */
-        int passNumberOf(long w, int least, int most) {
-            return passWord(w) ? passNumber(least, most) : NONE;
+        int passNumberOf(long word, int least, int most) {
+            return passWord(word) ? passNumber(least, most) : NONE;
         }
     }
 
@@ -1053,7 +1076,7 @@ public final class LikeYears {
                 tape.refuse(FAULT_CANNOT_STAND);
                 return 0;
             }
-            long name = tape.word;
+            long name = tape.value;
             if (book.markNamed(name) >= 0 || caseNamed(name) >= 0) {
                 tape.refuse(FAULT_TOLD_ALREADY);
                 return 0;
@@ -1068,7 +1091,7 @@ public final class LikeYears {
                 tape.refuse(FAULT_CANNOT_STAND);
                 return NONE;
             }
-            int mark = book.markNamed(tape.word);
+            int mark = book.markNamed(tape.value);
             if (mark < 0) {
                 tape.refuse(FAULT_NO_SUCH_NAME);
             }
@@ -1080,7 +1103,7 @@ public final class LikeYears {
                 tape.refuse(FAULT_CANNOT_STAND);
                 return NONE;
             }
-            int c = caseNamed(tape.word);
+            int c = caseNamed(tape.value);
             if (c < 0) {
                 tape.refuse(FAULT_NO_SUCH_NAME);
                 return NONE;
@@ -1128,6 +1151,12 @@ public final class LikeYears {
         private static final int DO_TAKE = 13;
         private static final int DO_TIMES = 14;
 
+        private static final int LEVEL_EITHER = 0;
+        private static final int LEVEL_BOTH = 1;
+        private static final int LEVEL_ONE = 2;
+        private static final int LEVEL_SUM = 3;
+        private static final int LEVEL_UNIT = 5;
+
         private final Tape tape;
         private Book book;
         int lines;
@@ -1164,7 +1193,7 @@ public final class LikeYears {
             if (lines >= MOST_LAWS) {
                 return tape.refuse(FAULT_CANNOT_STAND);
             }
-            if (!tape.passWord(WORD_WHEN) || !readEither(0)) {
+            if (!tape.passWord(WORD_WHEN) || !readLevel(LEVEL_EITHER, 0)) {
                 return false;
             }
             int low = tape.passNumberOf(WORD_LEAST, 0, MOST_GIVEN);
@@ -1182,41 +1211,45 @@ public final class LikeYears {
             return true;
         }
 
-        private boolean readEither(int within) {
-            boolean good = readBoth(within);
-            for (int i = 0; i < MOST_UNITS && good && tape.isWord(WORD_OR); i++) {
-                tape.next();
-                good = readBoth(within) && write(DO_OR, 0);
+        /**
+         * e, both, one, sum and term are alike: what the next level reads, joined by signs of this one.
+         * Each unit ( e ) and each not goes one further within; what would be too far is refused.
+         */
+        private boolean readLevel(int level, int within) {
+            if (level == LEVEL_UNIT) {
+                return readUnit(within);
             }
-            return good;
-        }
-
-        private boolean readBoth(int within) {
-            boolean good = readOne(within);
-            for (int i = 0; i < MOST_UNITS && good && tape.isWord(WORD_AND); i++) {
-                tape.next();
-                good = readOne(within) && write(DO_AND, 0);
-            }
-            return good;
-        }
-
-        private boolean readOne(int within) {
-            if (tape.isWord(WORD_NOT)) {
+            if (level == LEVEL_ONE && tape.isWord(WORD_NOT)) {
                 if (within > MOST_WITHIN) {
                     return tape.refuse(FAULT_CANNOT_STAND);
                 }
                 tape.next();
-                return readOne(within + 1) && write(DO_NOT, 0);
+                return readLevel(LEVEL_ONE, within + 1) && write(DO_NOT, 0);
             }
-            if (!readSum(within)) {
-                return false;
+            boolean good = readLevel(level + 1, within);
+            // A relation stands between two sums alone; the others join as many as there are units.
+            int most = level == LEVEL_ONE ? 1 : MOST_UNITS;
+            for (int i = 0; i < most && good && signHere(level) >= 0; i++) {
+                int sign = signHere(level);
+                tape.next();
+                good = readLevel(level + 1, within) && write(sign, 0);
             }
-            int relation = relationHere();
-            if (relation < 0) {
-                return true;
+            return good;
+        }
+
+        private int signHere(int level) {
+            switch (level) {
+                case LEVEL_EITHER:
+                    return tape.isWord(WORD_OR) ? DO_OR : NONE;
+                case LEVEL_BOTH:
+                    return tape.isWord(WORD_AND) ? DO_AND : NONE;
+                case LEVEL_ONE:
+                    return relationHere();
+                case LEVEL_SUM:
+                    return tape.isSign('+') ? DO_ADD : tape.isSign('-') ? DO_TAKE : NONE;
+                default:
+                    return tape.isSign('*') ? DO_TIMES : NONE;
             }
-            tape.next();
-            return readSum(within) && write(relation, 0);
         }
 
         private int relationHere() {
@@ -1229,25 +1262,6 @@ public final class LikeYears {
             return tape.isSign('=') ? DO_SAME : NONE;
         }
 
-        private boolean readSum(int within) {
-            boolean good = readTerm(within);
-            for (int i = 0; i < MOST_UNITS && good && (tape.isSign('+') || tape.isSign('-')); i++) {
-                int sign = tape.isSign('+') ? DO_ADD : DO_TAKE;
-                tape.next();
-                good = readTerm(within) && write(sign, 0);
-            }
-            return good;
-        }
-
-        private boolean readTerm(int within) {
-            boolean good = readUnit(within);
-            for (int i = 0; i < MOST_UNITS && good && tape.isSign('*'); i++) {
-                tape.next();
-                good = readUnit(within) && write(DO_TIMES, 0);
-            }
-            return good;
-        }
-
         private boolean readUnit(int within) {
             if (units >= MOST_UNITS) {
                 return tape.refuse(FAULT_CANNOT_STAND);
@@ -1258,16 +1272,16 @@ public final class LikeYears {
                     return tape.refuse(FAULT_CANNOT_STAND);
                 }
                 tape.next();
-                return readEither(within + 1) && tape.passSign(')');
+                return readLevel(LEVEL_EITHER, within + 1) && tape.passSign(')');
             }
             return readPlainUnit();
         }
 
         private boolean readPlainUnit() {
             if (tape.kind == Tape.KIND_NUMBER) {
-                write(PUT_NUMBER, tape.number);
+                write(PUT_NUMBER, (int) tape.value);
             } else if (tape.isName()) {
-                int mark = book.markNamed(tape.word);
+                int mark = book.markNamed(tape.value);
                 if (mark < 0) {
                     return tape.refuse(FAULT_NO_SUCH_NAME);
                 }
