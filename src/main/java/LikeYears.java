@@ -212,8 +212,7 @@ public final class LikeYears {
         }
         switch (fit) {
             case FIT_SQUARES:
-                answer.set(knownSquares().up[a], nearest.low[a]);
-                break;
+                return knownSquares().partOf(a, part);
             case FIT_GAPS:
                 answer.set(knownGaps().months[a], 1);
                 break;
@@ -335,8 +334,8 @@ public final class LikeYears {
         if (own == 0) {
             return NONE;
         }
-        int no = off(judge);
-        int good = choices.draws(nearest.share, book.cases, own, no);
+        int much = off(judge);
+        int good = choices.draws(nearest.share, book.cases, own, much);
         answer.set(good, Choices.choose(book.cases, own));
         return answer.part(part);
     }
@@ -465,7 +464,7 @@ public final class LikeYears {
         if (pick < 0) {
             return NONE;
         }
-        return part == 0 ? n.up[pick] : n.low[pick];
+        return n.partOf(pick, part);
     }
 
     public int first(int given) {
@@ -1799,6 +1798,10 @@ public final class LikeYears {
                 }
             }
             total.add(squares * weights - sum * sum, weights);
+        }
+
+        long partOf(int c, int which) {
+            return which == 0 ? up[c] : low[c];
         }
 
         /** Whether case c is kept lower (or higher) by squares than case d. */

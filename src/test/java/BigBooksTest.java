@@ -14,24 +14,33 @@ public final class BigBooksTest {
     private final int[][] steps = new int[16][3];
     private final int[] above = new int[16];
 
-    private BigBooksTest(Random r, int cases) {
+    private BigBooksTest(Random r, int cases, boolean told) {
         n = cases;
-        int top = 1 + r.nextInt(11);
-        x = Texts.withBook("mark a to " + top + ";mark b to 11;mark c to " + top + ";" + (r.nextBoolean() ? "never c;" : ""));
+        int top = told ? 11 : 1 + r.nextInt(11);
         int span = r.nextInt(4) == 0 ? 5 : 241;
-        boolean upward = r.nextBoolean();
+        boolean upward = !told && r.nextBoolean();
+        StringBuilder text = new StringBuilder("mark x to " + top + ";mark y to 11;mark z to " + top + ";");
+        text.append(!told && r.nextBoolean() ? "never z;" : "");
         for (int c = 0; c < n; c++) {
-            steps[c] = new int[] {r.nextInt(top + 1), r.nextInt(12), r.nextInt(top + 1)};
-            int much = upward ? Math.min(240, steps[c][1] * 18 + r.nextInt(60)) : r.nextInt(span);
+            // Told books: steps that sum up to the same, so that nothing but what is told makes one over another.
+            steps[c] = told ? new int[] {c % 4, c / 4, 11 - c % 4 - c / 4}
+                : new int[] {r.nextInt(top + 1), r.nextInt(12), r.nextInt(top + 1)};
             judge[c] = r.nextInt(3);
             year[c] = r.nextInt(5);
-            given[c] = much;
+            given[c] = upward ? Math.min(240, steps[c][1] * 18 + r.nextInt(60)) : r.nextInt(span);
             weight[c] = 1 + r.nextInt(4);
-            for (int m = 0; m < 3; m++) {
-                x.step(m, steps[c][m]);
-            }
-            same("come", x.come(judge[c], year[c], much, weight[c]), c);
+            text.append("case ").append((char) ('a' + c)).append(" judge " + judge[c] + " in " + year[c] + " given "
+                + given[c] + " weight " + weight[c] + " x " + steps[c][0] + " y " + steps[c][1] + " z " + steps[c][2] + ";");
         }
+        // Of two halves each of one may be over each of the other, or any over one that is told ahead of it.
+        boolean halves = r.nextBoolean();
+        for (int t = 0; told && t < 20; t++) {
+            int over = halves ? r.nextInt(n / 2) : 1 + r.nextInt(n - 1);
+            int under = halves ? n / 2 + r.nextInt(n / 2) : r.nextInt(over);
+            text.append("told ").append((char) ('a' + over)).append(" over ").append((char) ('a' + under)).append(";");
+        }
+        x = Texts.withBook(text.toString());
+        same("a book of " + text.length() + " bytes", x.fault(0), 0);
         for (int i = 0; i < n; i++) {
             for (int j = 0; j < n; j++) {
                 above[i] |= x.worse(j, i) > 0 ? 1 << j : 0;
@@ -253,11 +262,11 @@ public final class BigBooksTest {
     }
 
     public static void main(String[] args) {
-        int times = args.length > 0 ? Integer.parseInt(args[0]) : 60;
+        int times = args.length > 0 ? Integer.parseInt(args[0]) : 150;
         for (int seed = 0; seed < times && wrong < 20; seed++) {
             run = "seed " + seed;
             Random r = new Random(seed);
-            BigBooksTest t = new BigBooksTest(r, seed % 3 == 0 ? 16 : 8 + r.nextInt(9));
+            BigBooksTest t = new BigBooksTest(r, seed % 3 == 0 ? 16 : 8 + r.nextInt(9), seed % 2 == 0);
             t.squares();
             t.gaps();
             t.again();

@@ -582,6 +582,10 @@ public final class PromisesTest {
         same("one of five shares 0", x.luck(3, 1), 1);
         same("two of five up", x.luck(1, 0), 1);
         same("two of five low", x.luck(1, 1), 10);
+        x.come(9, 0, 6, 1);
+        same("the last judge", x.luck(9, 0), 1);
+        x.come(0, 0, 6, 1);
+        same("the first judge", x.luck(0, 0), 1);
     }
 
     private static void p22Upto() {
@@ -900,6 +904,28 @@ public final class PromisesTest {
         x.give(0, 99);
         same("once more", x.back(0), 4);
         same("a box is not used up", x.about(10), 24);
+        x.step(0, 3);
+        for (int c = 4; c < 16; c++) {
+            x.come(1, 2, 3, 4);
+        }
+        x.keep(2);
+        for (int c = 4; c < 16; c++) {
+            x.undo();
+        }
+        x.step(0, 0);
+        x.step(1, 0);
+        for (int c = 4; c < 16; c++) {
+            x.come(5, 6, 7, 1);
+        }
+        same("like d", x.worse(15, 3), 2);
+        x.back(2);
+        same("with all its steps", x.worse(15, 2), 1);
+        same("with its judge", x.luck(5, 0), -1);
+        same("with its year", x.upto(2, 0), 0);
+        same("with what it was given", x.about(25), 3);
+        x.give(15, 4);
+        same("with its weight, up", x.upto(2, 0), 11);
+        same("with its weight, low", x.upto(2, 1), 3);
     }
 
     private static void p39About() {
