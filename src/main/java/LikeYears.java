@@ -1154,6 +1154,7 @@ public final class LikeYears {
         private static final int LEVEL_BOTH = 1;
         private static final int LEVEL_ONE = 2;
         private static final int LEVEL_SUM = 3;
+        private static final int LEVEL_TERM = 4;
         private static final int LEVEL_UNIT = 5;
 
         private final Tape tape;
@@ -1227,8 +1228,8 @@ public final class LikeYears {
             }
             boolean good = readLevel(level + 1, within);
             // A relation stands between two sums alone; the others join as many as there are units.
-            int most = level == LEVEL_ONE ? 1 : MOST_UNITS;
-            for (int i = 0; i < most && good && signHere(level) >= 0; i++) {
+            int joins = level == LEVEL_ONE ? 1 : MOST_UNITS;
+            for (int i = 0; i < joins && good && signHere(level) >= 0; i++) {
                 int sign = signHere(level);
                 tape.next();
                 good = readLevel(level + 1, within) && write(sign, 0);
@@ -1246,8 +1247,10 @@ public final class LikeYears {
                     return relationHere();
                 case LEVEL_SUM:
                     return tape.isSign('+') ? DO_ADD : tape.isSign('-') ? DO_TAKE : NONE;
-                default:
+                case LEVEL_TERM:
                     return tape.isSign('*') ? DO_TIMES : NONE;
+                default:
+                    return NONE;
             }
         }
 
