@@ -138,7 +138,9 @@ public final class LikeYears {
         spareBook = old;
         rules.lines = 0;
         acts.forget();
-        Arrays.fill(boxFull, false);
+        for (int i = 0; i < BOXES; i++) {
+            boxFull[i] = false;
+        }
         known = 0;
         return reader.lines;
     }
@@ -1612,7 +1614,6 @@ public final class LikeYears {
             if (payers == 0) {
                 return 0;
             }
-            payDirectly();
             int ower = findOpenOwer();
             for (int round = 0; round < MOST_ROUNDS && ower >= 0; round++) {
                 payAround(ower);
@@ -1638,20 +1639,6 @@ public final class LikeYears {
                 }
             }
             Arrays.fill(paid, 0);
-        }
-
-        private void payDirectly() {
-            for (int p = 0; p < MOST_CASES; p++) {
-                int open = (payers >> p & 1) != 0 ? above[p] & owers : 0;
-                for (int o = 0; open != 0 && o < MOST_CASES; o++) {
-                    if ((open >> o & 1) != 0) {
-                        int much = Math.min(left[p], left[o]);
-                        paid[p * MOST_CASES + o] = much;
-                        left[p] -= much;
-                        left[o] -= much;
-                    }
-                }
-            }
         }
 
         /**
@@ -1872,17 +1859,17 @@ public final class LikeYears {
             fewest = MOST_CASES + 1;
             leastCover = 0;
             covers = 0;
-            search(b.allCases(), 0);
+            search(b.allCases(), 0, 0);
         }
 
         /**
          * Of the case with most foes among the rest: it is taken, or all its foes are. Each way ends
          * with another set, and no set of the fewest is missed. A case goes from the rest at each
-         * level, so there are 17 at most.
+         * level, so it never goes deeper than there are cases.
          */
-        private void search(int rest, int taken) {
+        private void search(int rest, int taken, int depth) {
             int number = Integer.bitCount(taken);
-            if (number > fewest) {
+            if (number > fewest || depth > MOST_CASES) {
                 return;
             }
             int odd = mostFoes(rest);
@@ -1891,8 +1878,8 @@ public final class LikeYears {
                 return;
             }
             int without = rest & ~(1 << odd);
-            search(without, taken | 1 << odd);
-            search(without & ~foes[odd], taken | foes[odd] & rest);
+            search(without, taken | 1 << odd, depth + 1);
+            search(without & ~foes[odd], taken | foes[odd] & rest, depth + 1);
         }
 
         private int mostFoes(int rest) {
@@ -2051,10 +2038,9 @@ public final class LikeYears {
                 gain.up = gainUp[ahead];
                 gain.low = gainLow[ahead];
                 addRun(i, j);
-                int begun = bits[ahead] | begin[i];
-                int more = i == k - 1 ? 1 : Fraction.compare(gain.up, gain.low, gainUp[at], gainLow[at]);
-                if (more > 0 || more == 0 && begun < bits[at]) {
-                    store(at, begun);
+                // Of like ones the first stays: what begins later has the greater number.
+                if (i == k - 1 || Fraction.compare(gain.up, gain.low, gainUp[at], gainLow[at]) > 0) {
+                    store(at, bits[ahead] | begin[i]);
                 }
             }
         }
