@@ -5,7 +5,9 @@ public final class BigBooksTest {
     private static int wrong;
     private static String run = "";
 
-    private final LikeYears x;
+    /** The steps are those of a book of its own, as no object is asked more than 512 times. */
+    private final String text;
+    private LikeYears x;
     private final int n;
     private final int[] judge = new int[16];
     private final int[] year = new int[16];
@@ -19,8 +21,8 @@ public final class BigBooksTest {
         int top = told ? 11 : 1 + r.nextInt(11);
         int span = r.nextInt(4) == 0 ? 5 : 241;
         boolean upward = !told && r.nextBoolean();
-        StringBuilder text = new StringBuilder("mark x to " + top + ";mark y to 11;mark z to " + top + ";");
-        text.append(!told && r.nextBoolean() ? "never z;" : "");
+        StringBuilder lines = new StringBuilder("mark x to " + top + ";mark y to 11;mark z to " + top + ";");
+        lines.append(!told && r.nextBoolean() ? "never z;" : "");
         for (int c = 0; c < n; c++) {
             // Told books: steps that sum up to the same, so that nothing but what is told makes one over another.
             steps[c] = told ? new int[] {c % 4, c / 4, 11 - c % 4 - c / 4}
@@ -29,7 +31,7 @@ public final class BigBooksTest {
             year[c] = r.nextInt(5);
             given[c] = upward ? Math.min(240, steps[c][1] * 18 + r.nextInt(60)) : r.nextInt(span);
             weight[c] = 1 + r.nextInt(4);
-            text.append("case ").append((char) ('a' + c)).append(" judge " + judge[c] + " in " + year[c] + " given "
+            lines.append("case ").append((char) ('a' + c)).append(" judge " + judge[c] + " in " + year[c] + " given "
                 + given[c] + " weight " + weight[c] + " x " + steps[c][0] + " y " + steps[c][1] + " z " + steps[c][2] + ";");
         }
         // Of two halves each of one may be over each of the other, or any over one that is told ahead of it.
@@ -37,9 +39,10 @@ public final class BigBooksTest {
         for (int t = 0; told && t < 20; t++) {
             int over = halves ? r.nextInt(n / 2) : 1 + r.nextInt(n - 1);
             int under = halves ? n / 2 + r.nextInt(n / 2) : r.nextInt(over);
-            text.append("told ").append((char) ('a' + over)).append(" over ").append((char) ('a' + under)).append(";");
+            lines.append("told ").append((char) ('a' + over)).append(" over ").append((char) ('a' + under)).append(";");
         }
-        x = Texts.withBook(text.toString());
+        text = lines.toString();
+        x = Texts.withBook(text);
         same("a book of " + text.length() + " bytes", x.fault(0), 0);
         for (int i = 0; i < n; i++) {
             for (int j = 0; j < n; j++) {
@@ -74,39 +77,68 @@ public final class BigBooksTest {
 
     private void squares() {
         Ratio cost = Ratio.ZERO;
+        int[] block = new int[n];
+        Ratio[] kept = new Ratio[n];
         for (int c = 0; c < n; c++) {
-            int block = x.block(c);
-            long w = 0;
-            long sum = 0;
-            for (int d = 0; d < n; d++) {
-                if ((block >> d & 1) != 0) {
-                    w += weight[d];
-                    sum += weight[d] * given[d];
-                    same("block of " + d, x.block(d), block);
-                }
+            block[c] = x.block(c);
+            kept[c] = mean(block[c]);
+            same("kept up", x.kept(0, c, 0), kept[c].part(0));
+            same("kept low", x.kept(0, c, 1), kept[c].part(1));
+            if (Integer.numberOfTrailingZeros(block[c]) == c) {
+                same("some of a block that are worth more", mostWorth(block[c], worths(block[c])), 0);
+                cost = cost.plus(costOfBlock(block[c]));
             }
-            long[] worth = new long[n];
-            for (int d = 0; d < n; d++) {
-                worth[d] = weight[d] * (given[d] * w - sum);
-            }
-            Ratio mean = Ratio.of(sum, w);
-            same("kept up", x.kept(0, c, 0), mean.part(0));
-            same("kept low", x.kept(0, c, 1), mean.part(1));
-            if (Integer.numberOfTrailingZeros(block) == c) {
-                same("some of a block that are worth more", mostWorth(block, worth), 0);
-            }
-            Ratio d = Ratio.of(given[c], 1).minus(mean);
-            cost = cost.plus(d.times(d).times(Ratio.of(weight[c], 1)));
         }
         same("cost up", x.cost(0, 0), cost.part(0));
         same("cost low", x.cost(0, 1), cost.part(1));
         for (int i = 0; i < n; i++) {
             for (int j = 0; j < n; j++) {
-                int by = Ratio.of(x.kept(0, i, 0), x.kept(0, i, 1)).compareTo(Ratio.of(x.kept(0, j, 0), x.kept(0, j, 1)));
+                int by = kept[i].compareTo(kept[j]);
                 same("order is kept", (above[j] >> i & 1) != 0 && by < 0 ? 1 : 0, 0);
-                same("one block, one number", (x.block(i) == x.block(j)) == (by == 0) ? 1 : 0, 1);
+                same("one block, one number", (block[i] == block[j]) == (by == 0) ? 1 : 0, 1);
+                same("all of a block have it", (block[i] >> j & 1) != 0 == (block[i] == block[j]) ? 1 : 0, 1);
             }
         }
+    }
+
+    private Ratio mean(int set) {
+        long w = 0;
+        long sum = 0;
+        for (int d = 0; d < n; d++) {
+            w += (set >> d & 1) * weight[d];
+            sum += (set >> d & 1) * weight[d] * given[d];
+        }
+        return Ratio.of(sum, w);
+    }
+
+    /** Of each of a set what it is worth there, times the lower part of the mean. */
+    private long[] worths(int set) {
+        Ratio mean = mean(set);
+        long[] worth = new long[n];
+        for (int d = 0; d < n; d++) {
+            worth[d] = weight[d] * (given[d] * mean.part(1) - mean.part(0));
+        }
+        return worth;
+    }
+
+    private Ratio costOfBlock(int set) {
+        Ratio cost = Ratio.ZERO;
+        for (int d = 0; d < n; d++) {
+            if ((set >> d & 1) != 0) {
+                Ratio by = Ratio.of(given[d], 1).minus(mean(set));
+                cost = cost.plus(by.times(by).times(Ratio.of(weight[d], 1)));
+            }
+        }
+        return cost;
+    }
+
+    /** By the letter: parts a set as long as some of it are worth more than nothing. */
+    private Ratio costOf(int set) {
+        int upper = set == 0 ? 0 : mostWorth(set, worths(set));
+        if (upper == 0) {
+            return costOfBlock(set);
+        }
+        return costOf(upper).plus(costOf(set & ~upper));
     }
 
     private void gaps() {
@@ -243,22 +275,31 @@ public final class BigBooksTest {
     }
 
     private void years() {
-        LikeYears y = x;
+        Ratio[] kept = new Ratio[n];
+        for (int c = 0; c < n; c++) {
+            kept[c] = Ratio.of(x.kept(0, c, 0), x.kept(0, c, 1));
+        }
         for (int at = 0; at < 5; at++) {
             Ratio drift = Ratio.ZERO;
+            int upto = 0;
             for (int c = 0; c < n; c++) {
+                upto |= year[c] <= at ? 1 << c : 0;
                 if (year[c] == at) {
-                    Ratio d = Ratio.of(given[c], 1).minus(Ratio.of(y.kept(0, c, 0), y.kept(0, c, 1)));
-                    drift = drift.plus(d.times(Ratio.of(weight[c], 1)));
+                    drift = drift.plus(Ratio.of(given[c], 1).minus(kept[c]).times(Ratio.of(weight[c], 1)));
                 }
             }
-            same("drift up", y.drift(at, 0), drift.part(0));
-            same("drift low", y.drift(at, 1), drift.part(1));
+            same("drift up", x.drift(at, 0), drift.part(0));
+            same("drift low", x.drift(at, 1), drift.part(1));
+            if (at % 2 == 1) {
+                Ratio cost = costOf(upto);
+                same("upto up", x.upto(at, 0), cost.part(0));
+                same("upto low", x.upto(at, 1), cost.part(1));
+            }
         }
-        same("upto all years", y.upto(99, 0), y.cost(0, 0));
-        Ratio lost = Ratio.of(y.grid(0, 1, 0), y.grid(0, 1, 1)).minus(Ratio.of(y.cost(0, 0), y.cost(0, 1)));
-        same("loses up", y.loses(0, 1, 0), lost.part(0));
-        same("loses low", y.loses(0, 1, 1), lost.part(1));
+        same("upto all years", x.upto(99, 0), x.cost(0, 0));
+        Ratio lost = Ratio.of(x.grid(0, 1, 0), x.grid(0, 1, 1)).minus(Ratio.of(x.cost(0, 0), x.cost(0, 1)));
+        same("loses up", x.loses(0, 1, 0), lost.part(0));
+        same("loses low", x.loses(0, 1, 1), lost.part(1));
     }
 
     public static void main(String[] args) {
@@ -267,6 +308,7 @@ public final class BigBooksTest {
             run = "seed " + seed;
             Random r = new Random(seed);
             BigBooksTest t = new BigBooksTest(r, seed % 3 == 0 ? 16 : 8 + r.nextInt(9), seed % 2 == 0);
+            t.x = Texts.withBook(t.text);
             t.squares();
             t.gaps();
             t.again();

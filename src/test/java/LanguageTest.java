@@ -28,6 +28,9 @@ public final class LanguageTest {
     private static final String[] BANNED = {"throw", "try", "catch", "synchronized", "assert", "instanceof", "->", "::",
         "System.out", "System.nanoTime", "System.currentTimeMillis", "Random", "Thread", "Exact(", "hashCode",
         "import java.io", "import java.nio", "double", "float"};
+    /** What the class uses of the library that LANGUAGE.md lists. */
+    private static final Set<String> LIBRARY = Set.of("Arrays.fill", "System.arraycopy", "Integer.bitCount", "Math.min",
+        "Math.max", "Math.abs", "Long.compare");
     private static int wrong;
 
     private static void check(boolean good, String what) {
@@ -94,8 +97,32 @@ public final class LanguageTest {
         while (imports.find()) {
             check(imports.group(1).equals("java.util.Arrays"), "import " + imports.group(1));
         }
-        check(!code.contains("while (true)") && !code.contains("for (;;)"), "a loop without an end");
+        check(!code.matches("(?s).*\\bwhile\\b.*") && !code.contains("for (;;)"), "a loop without a counter or a bound");
+        check(text.chars().allMatch(c -> c == 10 || c >= 32 && c < 127), "a sign that is not 1 to 127");
+        library(code);
         methods(text.split("\n"));
+    }
+
+    /** Arrays.fill is over numbers alone; what is made are own classes and arrays. */
+    private static void library(String code) {
+        Matcher uses = Pattern.compile("\\b([A-Z][a-z]\\w*)\\.([a-z]\\w*)\\(").matcher(code);
+        Set<String> own = new HashSet<>();
+        for (Class<?> c : LikeYears.class.getNestMembers()) {
+            own.add(c.getSimpleName());
+        }
+        while (uses.find()) {
+            String use = uses.group(1) + "." + uses.group(2);
+            check(own.contains(uses.group(1)) || LIBRARY.contains(use), "not of the library: " + use);
+        }
+        Matcher fills = Pattern.compile("Arrays\\.fill\\((\\w+),").matcher(code);
+        while (fills.find()) {
+            String row = "\\b(int|long|short|byte|char)\\[\\] " + fills.group(1) + "\\b";
+            check(Pattern.compile(row).matcher(code).find(), "filled, but no numbers: " + fills.group(1));
+        }
+        Matcher made = Pattern.compile("\\bnew (\\w+)(.)").matcher(code);
+        while (made.find()) {
+            check(made.group(2).equals("[") || own.contains(made.group(1)), "made: " + made.group(1));
+        }
     }
 
     /** A method begins with a line that ends in ") {" at a member's depth and ends with a brace there. */

@@ -447,6 +447,25 @@ public final class MeaningEdgesTest {
         T.same("the last grid", y.best(), 45);
         LikeYears like = of("mark p to 1;mark q to 1;mark r to 1;mark s to 1;", c("a", 10, 1, "p 1"), c("b", 20, 1, "s 1"));
         T.same("of like ones the least a, then the least b", like.best(), 3);
+        gridsInFractions();
+    }
+
+    /** Three pairs, each of which clashes in one grid alone: two of the costs differ by less than one. */
+    private static void gridsInFractions() {
+        String marks = "mark p to 5;mark q to 5;mark r to 5;";
+        String last = c("e", 100, 1, "p 4 q 4 r 4") + c("f", 120, 1, "p 5 q 4 r 4");
+        LikeYears x = of(marks, c("a", 10, 1, ""), c("b", 13, 1, "q 1"), c("c", 60, 2, "p 2 q 2 r 2"), c("d", 62, 3, "p 2 q 2 r 3"), last);
+        T.ratio("grid(0, 1)", x.grid(0, 1, 0), x.grid(0, 1, 1), 24, 5);
+        T.ratio("grid(0, 2)", x.grid(0, 2, 0), x.grid(0, 2, 1), 9, 2);
+        T.ratio("grid(1, 2)", x.grid(1, 2, 0), x.grid(1, 2, 1), 200, 1);
+        T.same("9 by 2 is less than 24 by 5", x.best(), 2);
+        LikeYears y = of(marks, c("a", 10, 1, ""), c("b", 13, 1, "r 1"), c("c", 60, 2, "p 2 q 2 r 2"), c("d", 62, 3, "p 2 q 3 r 2"), last);
+        T.same("the other way round", y.best(), 1);
+        y.give(1, 12);
+        y.give(3, 61);
+        T.ratio("grid(0, 1)", y.grid(0, 1, 0), y.grid(0, 1, 1), 2, 1);
+        T.ratio("grid(0, 2)", y.grid(0, 2, 0), y.grid(0, 2, 1), 6, 5);
+        T.same("6 by 5 is less than 2", y.best(), 2);
     }
 
     private static void runs() {
@@ -625,6 +644,9 @@ public final class MeaningEdgesTest {
         like.give(1, 5);
         T.same("fewer by r", like.mercy(0), 2);
         T.same("none", like.mercy(1), 0);
+        LikeYears first = of("mark p to 1;mark q to 1;mark r to 1;never p;never q;never r;", c("a", 10, 1, ""), c("b", 20, 1, "p 1"));
+        T.same("the first of all", first.mercy(0), 0);
+        T.same("none clash", first.mercy(1), 0);
         LikeYears told = of("mark p to 1;mark q to 1;never p;", c("a", 10, 1, "q 1"), c("b", 20, 1, "p 1"), "told a over b;");
         T.same("what is told stays", told.mercy(1), 1);
     }
@@ -978,16 +1000,16 @@ public final class MeaningEdgesTest {
             "mark m to 3;mark n to 3;"};
         String[] faults = {"", "mark k to 3;never k;mark l to 3;mark o to 3;" + c("a", 9, 9, 9, 4, "k 3 l 3 o 3") + c("b", 9, 9, 99, 4,
             "k 2 l 2 o 2") + "told a over b;told b over a;", "mark m to 3;" + c("a", 9, 9, 9, 4, "m 3") + "#"};
-        for (String fault : faults) {
+        for (int i = 0; i < faults.length * books.length; i++) {
+            String fault = faults[i % faults.length];
             LikeYears x = new LikeYears();
-            for (int i = 0; i < 4 * books.length; i++) {
+            for (int j = 0; j < books.length; j++) {
                 Texts.feed(x, fault);
                 T.same("a fault", x.book() < 0 || fault.isEmpty() ? 1 : 0, 1);
-                String text = books[i * 3 % books.length];
+                String text = books[(i + j * 3) % books.length];
                 Texts.feed(x, text);
                 x.book();
-                LikeYears fresh = of(text);
-                likeFresh(x, fresh);
+                likeFresh(x, of(text));
                 x.step(0, 3);
                 x.step(1, 2);
             }
@@ -1006,6 +1028,29 @@ public final class MeaningEdgesTest {
         }
         for (int i = 0; i < got[0].length; i++) {
             T.same("answer " + i + " behind another book", got[0][i], got[1][i]);
+        }
+    }
+
+    private static void latestFault() {
+        String[] good = {"mark m to 1;", "when 1 least 0 most 0;"};
+        String[] bad = {"mark m to 12;", "when 1 least 0 most 241;"};
+        int[] place = {10, 20};
+        for (int first = 0; first < 2; first++) {
+            for (int then = 0; then < 2; then++) {
+                LikeYears x = new LikeYears();
+                Texts.feed(x, bad[first]);
+                T.same("a fault", first == 0 ? x.book() : x.laws(), -1);
+                T.same("a number that can't be", x.fault(0), 4);
+                T.same("its place", x.fault(1), place[first]);
+                Texts.feed(x, good[then]);
+                T.same("good", then == 0 ? x.book() : x.laws(), 1);
+                T.same("without", x.fault(0), 0);
+                T.same("no place", x.fault(1), -1);
+                Texts.feed(x, bad[then]);
+                T.same("a fault again", then == 0 ? x.book() : x.laws(), -1);
+                T.same("fault", x.fault(0), 4);
+                T.same("place", x.fault(1), place[then]);
+            }
         }
     }
 
@@ -1108,6 +1153,7 @@ public final class MeaningEdgesTest {
         sixtyActs();
         anotherBook();
         manyBooks();
+        latestFault();
         manyLaws();
         boxes();
         T.finish();

@@ -19,6 +19,8 @@ public final class RandomTest {
     private final boolean small;
     private final StringBuilder log = new StringBuilder();
     private List<String> marks = new ArrayList<>();
+    /** What is answered behind the 512th call is free. */
+    private int callsLeft = 512;
 
     private RandomTest(long seed, boolean small) {
         r = new Random(seed);
@@ -33,6 +35,10 @@ public final class RandomTest {
     }
 
     private boolean ask(Method m, Object... args) throws Exception {
+        if (callsLeft < 3) {
+            return false;
+        }
+        callsLeft--;
         Object want = m.invoke(model, args);
         Object got = LikeYears.class.getMethod(m.getName(), m.getParameterTypes()).invoke(real, args);
         asked++;
@@ -73,9 +79,10 @@ public final class RandomTest {
             Books.spoil(r, t);
         }
         boolean good = text(Books.glue(r, t), "book");
-        if (real.fault(0) == 0) {
+        if (good && real.fault(0) == 0) {
             marks = names;
         }
+        callsLeft--;
         return good;
     }
 
@@ -129,11 +136,13 @@ public final class RandomTest {
             Method m = all[r.nextInt(all.length)];
             boolean reads = m.getName().equals("book") || m.getName().equals("laws") || m.getName().equals("feed");
             boolean good;
+            boolean full = m.getName().equals("come") && small && real.about(1) >= 7;
+            callsLeft -= m.getName().equals("come") && small ? 1 : 0;
             if (i == 0 || reads && r.nextInt(8) == 0) {
                 good = newBook();
             } else if (reads && r.nextInt(6) == 0) {
                 good = newLaws();
-            } else if (reads && r.nextInt(4) > 0 || m.getName().equals("come") && small && real.about(1) >= 7) {
+            } else if (reads && r.nextInt(4) > 0 || full) {
                 good = true;
             } else {
                 good = !small && SLOW.contains(m.getName()) || anyCall(m);
