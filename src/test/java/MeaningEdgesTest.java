@@ -593,6 +593,14 @@ public final class MeaningEdgesTest {
         T.ratio("the last year", y.upto(99, 0), y.upto(99, 1), y.cost(0, 0), y.cost(0, 1));
         T.ratio("weights, below 0", y.drift(0, 0), y.drift(0, 1), -30, 1);
         T.ratio("weights", y.drift(99, 0), y.drift(99, 1), 30, 1);
+        LikeYears later = of("mark m to 2;", c("a", 0, 9, 240, 4, "m 2"), c("b", 0, 1, 11, 1, "m 1"), c("d", 0, 1, 10, 1, ""));
+        for (int fit = 0; fit < 3; fit++) {
+            cost(later, fit, 0, 1);
+            T.ratio("as if there were no others, whatever was asked ahead", later.upto(5, 0), later.upto(5, 1), 0, 1);
+        }
+        later.give(2, 12);
+        cost(later, 1, 1, 1);
+        T.ratio("b and d clash", later.upto(5, 0), later.upto(5, 1), 1, 2);
         LikeYears through = of("mark p to 2;mark q to 2;", c("a", 0, 1, 1, 1, "p 1"), c("b", 0, 9, 9, 1, "q 1"),
             c("d", 0, 1, 5, 1, ""), "told a over b;");
         T.ratio("a over d by its steps", through.upto(1, 0), through.upto(1, 1), 8, 1);
